@@ -182,6 +182,22 @@ public final class ChangesTest {
         x.event(0);
         Check.same("no own cell had less", Check.heightsOf(x, 0, 0), "3 3 3 3 3 3 3 3 3 3 3 3 3 3 3 3");
 
+        // 0 has the cell 0, 4 has the cell 1.
+        x = new ForkedStamps();
+        for (int i = 0; i < 4; i++) {
+            x.fork(0);
+        }
+        x.event(4);
+        x.gather(4, 0);
+        x.event(0);
+        Check.same("the first cell had less", Check.heightsOf(x, 0, 0), "1 1 0 0 0 0 0 0 0 0 0 0 0 0 0 0");
+        x.fork(0);
+        x.event(0);
+        Check.due("the greatest height is in the first cell", x.of(0, 2), 2);
+        x.gather(4, 0);
+        x.event(0);
+        Check.same("the last cell had less", Check.heightsOf(x, 0, 0), "2 2 0 0 0 0 0 0 0 0 0 0 0 0 0 0");
+
         // A greater height in another one's cell does not count.
         x = new ForkedStamps();
         x.fork(0);

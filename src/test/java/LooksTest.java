@@ -23,6 +23,10 @@ public final class LooksTest {
 
     private static void ofHelper() {
         ForkedStamps x = three();
+        int[] ofNew = {0x00FF, 8, 0, 0, 0, ForkedStamps.NONE, 0, 1};
+        for (int what = 0; what < 8; what++) {
+            Check.due("nothing happened: of(0, " + what + ")", x.of(0, what), ofNew[what]);
+        }
         x.event(1);
         x.event(1);
         x.event(2);

@@ -12,6 +12,7 @@ public final class UndoTest {
         restoreIsAChange();
         undoKeepsTheSlots();
         aNewStateOverTheOldOne();
+        messagesAndActorsComeBack();
         slotErrors();
         Check.end();
     }
@@ -173,6 +174,30 @@ public final class UndoTest {
         x.undo();
         Check.due("whose(1)", x.whose(1), 0);
         Check.due("knows(0, 0, 1)", x.knows(0, 0, 1), 1);
+    }
+
+    private static void messagesAndActorsComeBack() {
+        ForkedStamps x = new ForkedStamps();
+        x.fork(0);
+        x.event(0);
+        x.send(0);
+        x.save(0);
+        String saved = Check.stateOf(x);
+        x.undo();
+        x.undo();
+        x.event(1);
+        x.send(1);
+        String later = Check.stateOf(x);
+        Check.due("restore(0)", x.restore(0), 1);
+        Check.due("whose(0)", x.whose(0), 0);
+        Check.due("ofMessage(0, 0)", x.ofMessage(0, 0), 0);
+        Check.due("height(1, 0, 0)", x.height(1, 0, 0), 1);
+        Check.same("the saved state", Check.stateOf(x), saved);
+        Check.due("undo()", x.undo(), 3);
+        Check.due("whose(0)", x.whose(0), 1);
+        Check.due("ofMessage(0, 0)", x.ofMessage(0, 0), 1);
+        Check.due("height(1, 0, 0)", x.height(1, 0, 0), 0);
+        Check.same("the state before it", Check.stateOf(x), later);
     }
 
     private static void slotErrors() {
