@@ -421,8 +421,11 @@ public final class ForkedStamps {
             boolean someLess = false;
             boolean someGreater = false;
             for (int cell = 0; cell < CELLS; cell++) {
-                someLess |= heights[cell] < other.heights[cell];
-                someGreater |= heights[cell] > other.heights[cell];
+                if (heights[cell] < other.heights[cell]) {
+                    someLess = true;
+                } else if (heights[cell] > other.heights[cell]) {
+                    someGreater = true;
+                }
             }
             if (someLess) {
                 return someGreater ? CLASH : BEFORE;

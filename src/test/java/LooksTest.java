@@ -143,16 +143,25 @@ public final class LooksTest {
         Check.due("BAD_VALUE comes before NO_SUCH", x.height(-1, 9, 16), ForkedStamps.BAD_VALUE);
     }
 
-    private static void knows() {
+    /** 120 events of 0 and 1 in turn; the message of 1 was sent before the last one. */
+    private static ForkedStamps knowing() {
         ForkedStamps x = three();
         for (int event = 0; event < 119; event++) {
             x.event(event % 2);
         }
         x.send(1);
         x.event(1);
+        return x;
+    }
+
+    private static void knows() {
+        ForkedStamps x = knowing();
         for (int event = 0; event < 120; event++) {
             Check.due("knows(0, 0, " + event + ")", x.knows(0, 0, event), event < 119 ? 1 - event % 2 : 0);
             Check.due("knows(0, 1, " + event + ")", x.knows(0, 1, event), event < 119 ? event % 2 : 1);
+        }
+        x = knowing();
+        for (int event = 0; event < 120; event++) {
             Check.due("knows(1, 0, " + event + ")", x.knows(1, 0, event), event < 119 ? event % 2 : 0);
             Check.due("knows(0, 2, " + event + ")", x.knows(0, 2, event), 0);
         }

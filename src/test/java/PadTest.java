@@ -74,10 +74,10 @@ public final class PadTest {
     }
 
     private static void noFault() {
-        ForkedStamps x = new ForkedStamps();
         String[] texts = {"0", "9", "10", "99", "100", "199", "200", "249", "250", "(0,0)", "(1,1)", "(250,250)", "((1,2),3)",
             "(1,(2,3))", "((1,2),(3,4))", "((((1,2),3),4),5)", "(1,(2,(3,(4,5))))", "((((0,0),0),0),0)"};
         for (String text : texts) {
+            ForkedStamps x = new ForkedStamps();
             Check.rewrite(x, text);
             Check.due("the fault of " + text, x.fault(), ForkedStamps.NONE);
             for (int length = 0; length < text.length(); length++) {

@@ -27,13 +27,13 @@ public final class UndoTest {
     }
 
     private static void eachChangeCanBeUndone() {
-        ForkedStamps x = new ForkedStamps();
-        x.fork(0);
-        x.event(1);
-        x.send(1);
-        x.event(0);
-        x.save(1);
         for (int change = 0; change < 7; change++) {
+            ForkedStamps x = new ForkedStamps();
+            x.fork(0);
+            x.event(1);
+            x.send(1);
+            x.event(0);
+            x.save(1);
             String before = Check.stateOf(x);
             int possible = x.count(7);
             switch (change) {
@@ -51,21 +51,25 @@ public final class UndoTest {
         }
     }
 
+    private static String sumsOf(ForkedStamps x) {
+        return x.count(2) + " events; " + x.of(0, 3) + " " + x.of(0, 4) + "; " + x.of(1, 3) + " " + x.of(1, 4);
+    }
+
     private static void sixStates() {
         ForkedStamps x = new ForkedStamps();
         x.fork(0);
         List<String> states = new ArrayList<>();
         for (int i = 0; i < 20; i++) {
-            states.add(Check.stateOf(x));
+            states.add(sumsOf(x));
             x.event(i % 3 / 2);
             Check.due("count(7)", x.count(7), Math.min(6, i + 2));
         }
         for (int left = 5; left >= 0; left--) {
             Check.due("undo()", x.undo(), left);
-            Check.same("the state with " + left + " left", Check.stateOf(x), states.get(14 + left));
+            Check.same("the state with " + left + " left", sumsOf(x), states.get(14 + left));
         }
         Check.due("the oldest ones were dropped", x.undo(), ForkedStamps.NOT_POSSIBLE);
-        Check.same("the state", Check.stateOf(x), states.get(14));
+        Check.same("the state", sumsOf(x), states.get(14));
         x.event(1);
         Check.due("count(7)", x.count(7), 1);
     }
